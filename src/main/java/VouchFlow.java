@@ -895,7 +895,7 @@ public final class VouchFlow {
 
         /** Brings one more part to a person, moving others' parts to other ways where it must. */
         boolean sendTo(int person) {
-            int place = goingFrom(person);
+            int place = MOST_PERSONS + person;
             search(place);
             if (bit(seen, place) == 0) {
                 return false;
@@ -913,67 +913,43 @@ public final class VouchFlow {
             return seen >> MOST_PERSONS;
         }
 
-        private static int goingFrom(int person) {
-            return MOST_PERSONS + person;
-        }
-
         private void search(int goal) {
             seen = 0;
             foundCount = 0;
-            for (int p = 0; p < web.persons; p++) {
-                if (bit(web.seeds, p) == 1) {
-                    find(p, SOURCE);
-                }
-            }
+            note(web.seeds, SOURCE);
             for (int i = 0; i < foundCount && i < PLACES; i++) {
                 int place = found[i];
                 if (place == goal) {
                     return;
                 }
-                if (place < MOST_PERSONS) {
-                    searchFromComing(place);
-                } else {
-                    searchFromGoing(place - MOST_PERSONS);
-                }
+                note(place < MOST_PERSONS ? nextOfComing(place) : nextOfGoing(place - MOST_PERSONS), place);
             }
         }
 
-        private void searchFromComing(int person) {
-            if (coming[person] < web.limits[person]) {
-                find(goingFrom(person), person);
+        private void note(int places, int from) {
+            int fresh = places & ~seen;
+            for (int place = 0; place < PLACES && fresh >> place != 0; place++) {
+                if ((fresh >> place & 1) == 1 && foundCount < PLACES) {
+                    before[place] = from;
+                    found[foundCount] = place;
+                    foundCount++;
+                }
             }
-            if (coming[person] == 0) {
-                return;
-            }
-            for (int by = 0; by < web.persons; by++) {
+            seen |= fresh;
+        }
+
+        private int nextOfComing(int person) {
+            int next = coming[person] < web.limits[person] ? 1 << MOST_PERSONS + person : 0;
+            for (int by = 0; by < web.persons && coming[person] > 0; by++) {
                 if (along[by * MOST_PERSONS + person] > 0) {
-                    find(goingFrom(by), person);
+                    next |= 1 << MOST_PERSONS + by;
                 }
             }
+            return next;
         }
 
-        private void searchFromGoing(int person) {
-            int place = goingFrom(person);
-            int whom = web.vouched[person] & ~seen;
-            for (int p = 0; whom != 0 && p < web.persons; p++) {
-                if (bit(whom, p) == 1) {
-                    find(p, place);
-                }
-            }
-            if (coming[person] > 0) {
-                find(person, place);
-            }
-        }
-
-        private void find(int place, int from) {
-            int mark = 1 << place;
-            if ((seen & mark) != 0 || foundCount >= PLACES) {
-                return;
-            }
-            seen |= mark;
-            before[place] = from;
-            found[foundCount] = place;
-            foundCount++;
+        private int nextOfGoing(int person) {
+            return web.vouched[person] | (coming[person] > 0 ? 1 << person : 0);
         }
 
         private void move(int from, int to) {
