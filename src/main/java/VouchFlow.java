@@ -65,7 +65,7 @@ public final class VouchFlow {
     public int fault() {
         reader.begin();
         for (int i = 0; i < pageLength; i++) {
-            if (!reader.accepts(page[i])) {
+            if (!reader.take(page[i])) {
                 return i;
             }
         }
@@ -649,14 +649,14 @@ public final class VouchFlow {
             return (state == AT_PERSON || state == AT_VOUCH) && current == draft.persons - 1;
         }
 
-        boolean accepts(int code) {
+        boolean take(int code) {
             switch (state) {
-                case AT_COUNT: return acceptsCount(code - '0');
+                case AT_COUNT: return takeCount(code - '0');
                 case AFTER_COUNT: return code == ':' && moveTo(AT_BOUNDS);
-                case AT_BOUNDS: return acceptsBoundsEnd(code) || acceptsBound(code - '0');
-                case AT_PERSON: return acceptsKind(code) || acceptsInPerson(code);
-                case AT_VOUCH: return acceptsInPerson(code);
-                default: return acceptsWhom(code - '0');
+                case AT_BOUNDS: return takeBoundsEnd(code) || takeBound(code - '0');
+                case AT_PERSON: return takeKind(code) || takeInPerson(code);
+                case AT_VOUCH: return takeInPerson(code);
+                default: return takeWhom(code - '0');
             }
         }
 
@@ -665,7 +665,7 @@ public final class VouchFlow {
             return true;
         }
 
-        private boolean acceptsCount(int digit) {
+        private boolean takeCount(int digit) {
             if (digit < 1 || digit > MOST_PERSONS) {
                 return false;
             }
@@ -673,7 +673,7 @@ public final class VouchFlow {
             return moveTo(AFTER_COUNT);
         }
 
-        private boolean acceptsBound(int digit) {
+        private boolean takeBound(int digit) {
             if (digit < 0 || digit > 9 || draft.boundCount >= MOST_BOUNDS) {
                 return false;
             }
@@ -682,11 +682,11 @@ public final class VouchFlow {
             return true;
         }
 
-        private boolean acceptsBoundsEnd(int code) {
+        private boolean takeBoundsEnd(int code) {
             return code == ':' && draft.boundCount > 0 && moveTo(AT_PERSON);
         }
 
-        private boolean acceptsKind(int code) {
+        private boolean takeKind(int code) {
             boolean seed = code == '*' && Integer.bitCount(draft.ofKind(SEED)) < MOST_SEEDS;
             if (!seed && code != '!') {
                 return false;
@@ -695,7 +695,7 @@ public final class VouchFlow {
             return moveTo(AT_VOUCH);
         }
 
-        private boolean acceptsInPerson(int code) {
+        private boolean takeInPerson(int code) {
             if (code == '>') {
                 return canVouchOn() && moveTo(AT_WHOM);
             }
@@ -713,7 +713,7 @@ public final class VouchFlow {
             return next < draft.persons && Integer.bitCount(draft.vouched[current]) < MOST_VOUCHES;
         }
 
-        private boolean acceptsWhom(int digit) {
+        private boolean takeWhom(int digit) {
             if (digit <= lastWhom || digit >= draft.persons || digit == current) {
                 return false;
             }

@@ -4,6 +4,7 @@ import java.util.Random;
 public final class AgainstPlainTest {
     private static final int RUNS = 400;
     private static final int MOST_CALLS = 512;
+    private static final int NARROW_CIRCLES = 6000;
     private static final int[] WILD = {Integer.MIN_VALUE, Integer.MAX_VALUE, -102, -1, 9, 10, 31, 32, 64, 511, 512, 1 << 9, -512};
     private static final String SIGNS = "0123456789:;>*! ~";
 
@@ -37,7 +38,51 @@ public final class AgainstPlainTest {
             anyCalls(MOST_CALLS - 1 - calls);
             due("digest()", x.digest(), y.digest());
         }
+        for (int i = 0; i < NARROW_CIRCLES && checks.clean(); i++) {
+            checks.part("narrow circle " + i);
+            narrowCircle();
+        }
         checks.end();
+    }
+
+    /** Many persons, few vouches and low limits: parts and ways must often give way to others. */
+    private void narrowCircle() {
+        x = new VouchFlow();
+        y = new PlainVouchFlow();
+        type(narrowText());
+        due("circle()", x.circle(), y.circle());
+        int n = y.count(0);
+        for (int p = 0; p < n; p++) {
+            two("person", p, 5);
+            two("person", p, 7);
+            one("apart", p);
+        }
+        one("trust", 2);
+        one("trust", 4);
+        for (int what = 0; what <= 2; what++) one("cut", what);
+        for (int i = 0; i < 8; i++) one("together", random.nextInt(1 << n));
+    }
+
+    private String narrowText() {
+        int n = 7 + random.nextInt(3);
+        StringBuilder b = new StringBuilder().append(n).append(':');
+        for (int i = 0; i < 5; i++) b.append(random.nextInt(6) == 0 ? 2 : 1);
+        int seeds = 2 + random.nextInt(2);
+        int shift = random.nextInt(n);
+        char end = ':';
+        for (int p = 0; p < n; p++) {
+            b.append(end);
+            end = ';';
+            b.append((p + shift) % n < seeds ? "*" : random.nextInt(3) == 0 ? "!" : "");
+            int given = 0;
+            for (int w = 0; w < n; w++) {
+                if (w != p && given < 5 && random.nextInt(n) < 2) {
+                    b.append('>').append(w);
+                    given++;
+                }
+            }
+        }
+        return b.toString();
     }
 
     private void due(String call, long got, long want) {

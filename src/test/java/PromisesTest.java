@@ -341,6 +341,8 @@ public final class PromisesTest {
         waysOf("6:1:*>5;*>0;*>0;*>0;*>0;", 5, 1);
         // the shortest path takes both middle persons' place if it is not turned round
         waysOf("6:1:*>2;*>3;>3>4;>5;>5;", 5, 2);
+        // the first path, 0 2 6 7, must give up 2 and go by 3 and 5, for 6 is on the only path of 1
+        waysOf("8:9:*>2>3;*>4;>6;>5;>6;>7;>7;", 7, 2);
         waysOf("5:1:*>1>2;>4;>3;>4;", 4, 1);
         // bounds of 0 hold back trust and no way
         waysOf("3:0:*>2;*>2;", 2, 2);
@@ -418,6 +420,8 @@ public final class PromisesTest {
         c.due("together(1)", Checks.read("1:0:*").together(1), 0);
         c.due("together(511)", Checks.read("9:9:*;*;*;*;*;;;;").together(511), 0);
         c.due("together(31)", Checks.read("9:9:*;*;*;*;*;;;;").together(31), 1);
+        // the part of 5 must come by 1 and 4 instead of 0 and 2, so that 0 can give to 3 and 6
+        c.due("together(96)", Checks.read("7:111:*>2>3;*>4;>5;>6;>5;;").together(96), 1);
         // trust that goes round two persons does not become more
         c.due("together(7)", Checks.read("3:299:*>1;>2;>1").together(7), 0);
         c.due("together(6)", Checks.read("3:299:*>1;>2;>1").together(6), 1);
