@@ -3,7 +3,7 @@ public final class PromisesTest {
     private static final int NONE = -1, UNKNOWN = -101, OUTSIDE = -102, STATE = -103, FULL = -104;
     private static final int LEAST = Integer.MIN_VALUE, MOST = Integer.MAX_VALUE;
 
-    /** Two seeds, one of whom is deceived; a false person far out, who vouches for another one. */
+    /** A seed, two persons who are taken in, and false persons, one of whom is behind another. */
     private static final String ORDINARY = "6:421:*>1>2;>3>4;>4;!>5;!;!";
     /** Nobody is a seed. */
     private static final String SEEDLESS = "3:11:>1;>2;!>0";
