@@ -1,5 +1,6 @@
 import java.lang.reflect.InvocationTargetException;
 import java.lang.reflect.Method;
+import java.lang.reflect.Modifier;
 import java.util.Arrays;
 import java.util.Comparator;
 import java.util.Set;
@@ -41,7 +42,7 @@ public final class AllArgumentsTest {
         for (String one : STATES) {
             state = one;
             for (Method method : methods) {
-                if (java.lang.reflect.Modifier.isPublic(method.getModifiers())) {
+                if (Modifier.isPublic(method.getModifiers())) {
                     make();
                     sweep(method, plain(method));
                 }

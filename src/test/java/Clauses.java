@@ -14,6 +14,8 @@ import java.util.Set;
 final class Clauses {
     static final int NONE = -1, UNKNOWN = -101, OUTSIDE = -102, STATE = -103, FULL = -104;
     static final int LEAST = Integer.MIN_VALUE, MOST = Integer.MAX_VALUE;
+    /** No person of a circle of nine, though some of them are in their last 5, 8 or 31 bits. */
+    static final int[] NOBODY = {-1, 9, 10, -9, LEAST, MOST, 31, 32, 33, 256, LEAST + 1, 1 << 30};
     private static final int MOST_CALLS = 512;
     private static final Set<String> CHANGERS = Set.of("letter", "blank", "circle", "kind", "vouch", "recall", "bound");
 

@@ -1,3 +1,5 @@
+import java.util.Arrays;
+
 /** The clauses of the description: circles, trust, walks, texts and errors. */
 public final class DescriptionTest {
     private static final int NONE = Clauses.NONE, UNKNOWN = Clauses.UNKNOWN, OUTSIDE = Clauses.OUTSIDE,
@@ -500,7 +502,7 @@ public final class DescriptionTest {
         c.due(c.read(CROWD), "kind(8, 1)", -104);
         c.says("The constructor and the methods follow, a promise each: the signature, then what it does");
         c.note("constructors", VouchFlow.class.getConstructors().length, 1);
-        long methods = java.util.Arrays.stream(VouchFlow.class.getMethods())
+        long methods = Arrays.stream(VouchFlow.class.getMethods())
                 .filter(m -> m.getDeclaringClass() == VouchFlow.class).count();
         c.note("methods", methods, 25);
     }

@@ -7,8 +7,7 @@ public final class PersonClausesTest {
     /** As many persons, bounds, seeds and vouches as there can be, with the marks that a page has room for. */
     private static final String MUCH = "9:12345:*>1>2>3>4>5;*>0>2>3>4>5;*>0>1>3>4>5;*>0>1>2>4>5;*>0>1>2>3>5;"
             + ">0>1>2>3>4;>0>1>2>3>4;>0>1>2>3>4;>0>1>2>3";
-    /** No person of a circle of nine; the last ones are 0 to 2 in their last 5, 8 or 31 bits. */
-    private static final int[] NOBODY = {-1, 9, 10, -9, LEAST, MOST, 31, 32, 33, 256, LEAST + 1, 1 << 30};
+    private static final int[] NOBODY = Clauses.NOBODY;
 
     private final Clauses c = new Clauses();
 

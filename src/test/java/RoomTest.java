@@ -2,7 +2,8 @@ import java.lang.management.ManagementFactory;
 
 /** An object is small, and its calls make no objects: all calls of a run live in one room. */
 public final class RoomTest {
-    private static final int CALLS = 512;
+    // four calls each: with those that read the circle, not more than the 512 of an object
+    private static final int ROUNDS = 100;
     private static final long MOST_BYTES_OF_AN_OBJECT = 6_000;
     // what the Java machine itself may make while it warms up, far less than one array a call
     private static final long MOST_BYTES_OF_ALL_CALLS = 4_000;
@@ -16,7 +17,7 @@ public final class RoomTest {
         long[] made = new long[3];
         measure(made);
         measure(made);
-        System.out.println(made[0] + " bytes for an object, " + made[1] + " for " + CALLS + " calls of digest()");
+        System.out.println(made[0] + " bytes for an object, " + made[1] + " for " + 4 * ROUNDS + " calls");
         checks.holds("an object has at most " + MOST_BYTES_OF_AN_OBJECT + " bytes", made[0] <= MOST_BYTES_OF_AN_OBJECT);
         checks.holds("calls make nothing", made[1] <= MOST_BYTES_OF_ALL_CALLS);
         checks.end();
@@ -31,7 +32,7 @@ public final class RoomTest {
         x.circle();
         Checks.type(x, "9:1");
         before = BEAN.getThreadAllocatedBytes(id);
-        for (int i = 0; i < CALLS; i++) {
+        for (int i = 0; i < ROUNDS; i++) {
             made[2] += x.digest() + x.fault() + x.circle() + x.together(511);
         }
         made[1] = BEAN.getThreadAllocatedBytes(id) - before;

@@ -6,7 +6,7 @@ public final class TrustClausesTest {
     private static final String ORDINARY = "6:421:*>1>2;>3>4;>4;!>5;!;!";
     /** A seed with just as many parts as there are persons, and eight false persons whom they can reach. */
     private static final String FLOODED = "9:999:*>1>2>3>4>5;!>6>7>8;!;!;!;!;!;!;!";
-    private static final int[] NOBODY = {-1, 9, 10, -9, LEAST, MOST, 31, 32, 33, 256, LEAST + 1, 1 << 30};
+    private static final int[] NOBODY = Clauses.NOBODY;
 
     private final Clauses c = new Clauses();
 

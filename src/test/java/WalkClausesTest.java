@@ -13,7 +13,7 @@ public final class WalkClausesTest {
     private static final String NINE = "9:12345:*>1>2>3>4>5;*;*;*;*;>6;>7;>8;>0";
     /** Only one way of four steps leads to the last person, with 1/5 for the beginning and for each step. */
     private static final String RARE = "9:0:*>1>2>3>4>5;*;*;*;*;>0>1>2>3>6;>0>1>2>3>7;>0>1>2>3>8;";
-    private static final int[] NOBODY = {-1, 9, 10, -9, LEAST, MOST, 31, 32, 33, 256, LEAST + 1, 1 << 30};
+    private static final int[] NOBODY = Clauses.NOBODY;
 
     private final Clauses c = new Clauses();
 
